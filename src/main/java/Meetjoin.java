@@ -437,7 +437,7 @@ public final class Meetjoin {
         return (set >> element & 1) != 0;
     }
 
-    /** The fields and lines as they were told; nothing here is worked out. */
+    /** What was told, and nothing that follows from it: so nothing here can be out of date. */
     private static final class Laws {
         final int[] team = new int[MAX_FIELDS];
         final int[] weight = new int[MAX_FIELDS];
@@ -490,7 +490,7 @@ public final class Meetjoin {
             return many;
         }
 
-        /** The set of lines that count, but defaults. */
+        /** Without defaults, as these take nothing away when lines meet. */
         int strictLines() {
             int set = 0;
             for (int line = 0; line < lines; line++) {
@@ -501,7 +501,7 @@ public final class Meetjoin {
             return set;
         }
 
-        /** The set of numbers for which defaults of this rank that count are about the field. */
+        /** A set of numbers is enough: a second default of the same number and rank changes nothing. */
         int defaultsOf(int field, int rank) {
             int set = 0;
             for (int line = 0; line < lines; line++) {
@@ -516,8 +516,7 @@ public final class Meetjoin {
             return kind[line] == MORE || kind[line] == UNLIKE;
         }
 
-        /** What a line about one field alone lets that be. */
-        int lets(int line) {
+        int letsAlone(int line) {
             switch (kind[line]) {
                 case ONE_OF: return said[line];
                 case AT_LEAST: return ALL_NUMBERS << said[line] & ALL_NUMBERS;
@@ -529,6 +528,7 @@ public final class Meetjoin {
         /**
          * What a line of two lets the field that it is about be, if the other one is of this set;
          * or what it lets that other one be, if the field that it is about is of this set.
+         * To meet and to choose both go by this, so that a line means the same to both.
          */
         int letsByOther(int line, boolean isForOther, int set) {
             if (kind[line] == UNLIKE) {
@@ -540,7 +540,6 @@ public final class Meetjoin {
         }
     }
 
-    /** What each field may be when a set of lines meets. */
     private static final class Meeting {
         private final Laws laws;
         final int[] may = new int[MAX_FIELDS];
@@ -560,7 +559,7 @@ public final class Meetjoin {
             isContradiction = other.isContradiction;
         }
 
-        /** Lets these lines take away from what the fields may be here already, as long as something becomes less. */
+        /** Begins with what is left already: what is left in the end is the same as from all numbers on. */
         void goOn(int lines) {
             boolean isLess = true;
             // Each round but the last takes away one number at least, and there are no more than these.
@@ -587,7 +586,7 @@ public final class Meetjoin {
             int field = laws.about[line];
             int before = may[field];
             if (!laws.isOfTwo(line)) {
-                may[field] = before & laws.lets(line);
+                may[field] = before & laws.letsAlone(line);
                 return may[field] != before;
             }
             int other = laws.said[line];
@@ -598,15 +597,15 @@ public final class Meetjoin {
         }
     }
 
-    /** What follows from the laws: what fields may be, what they are, the best choice, and reasons. */
+    /** What follows from the laws. */
     private static final class Outlook {
         private final Laws laws;
         final Meeting all;
+        /** To try things out in: no method may count on what another one left in it. */
         final Meeting trial;
         private final Meeting settled;
         final Chooser chooser;
         final int[] is = new int[MAX_FIELDS];
-        /** The lines that count, but defaults. */
         private int strict;
 
         Outlook(Laws laws) {
@@ -618,7 +617,7 @@ public final class Meetjoin {
             Arrays.fill(is, NONE);
         }
 
-        /** To be called whenever a law has changed. */
+        /** To be called by all that change the laws: what is asked is answered from what this works out. */
         void renew() {
             strict = laws.strictLines();
             all.begin(strict);
@@ -628,11 +627,10 @@ public final class Meetjoin {
                 takeDefault(field);
             }
             for (int field = 0; field < laws.fields; field++) {
-                is[field] = onlyOne(settled.may[field]);
+                is[field] = onlyNumber(settled.may[field]);
             }
         }
 
-        /** Takes the first default about the field that is no contradiction, if that may be more than one number. */
         private void takeDefault(int field) {
             if (Integer.bitCount(settled.may[field]) <= 1) {
                 return;
@@ -653,8 +651,7 @@ public final class Meetjoin {
             }
         }
 
-        /** The number of a set of just one, NONE of any other. */
-        private static int onlyOne(int set) {
+        private static int onlyNumber(int set) {
             for (int number = 0; number < NUMBERS; number++) {
                 if (set == 1 << number) {
                     return number;
@@ -673,7 +670,6 @@ public final class Meetjoin {
             return many;
         }
 
-        /** The reason for a field, or for the contradiction, if there is one or none is asked for a field. */
         int reasonOf(int field) {
             boolean isOfField = field >= 0 && field < laws.fields && !all.isContradiction;
             if (!isOfField && !all.isContradiction) {
@@ -693,7 +689,7 @@ public final class Meetjoin {
         }
     }
 
-    /** Looks through the choices, those with smaller numbers at the first fields first. */
+    /** Comes by smaller numbers at the first fields first: of several best ones the first that it finds is due. */
     private static final class Chooser {
         private final Laws laws;
         private final int[] from = new int[MAX_FIELDS];
@@ -715,7 +711,7 @@ public final class Meetjoin {
             bestCost = NONE;
             Arrays.fill(best, NONE);
             if (laws.fields > 0) {
-                chooseFrom(0, 0);
+                chooseFrom(this, 0, 0);
             }
         }
 
@@ -723,45 +719,45 @@ public final class Meetjoin {
             System.arraycopy(all.may, 0, from, 0, MAX_FIELDS);
             from[field] &= 1 << number;
             found = 0;
-            countFrom(0);
+            countFrom(this, 0);
             return found;
         }
 
-        private void chooseFrom(int field, int cost) {
-            if (bestCost != NONE && cost >= bestCost) {
+        private static void chooseFrom(Chooser it, int field, int cost) {
+            if (it.bestCost != NONE && cost >= it.bestCost) {
                 return;
             }
-            if (field >= laws.fields) {
-                bestCost = cost;
-                System.arraycopy(chosen, 0, best, 0, laws.fields);
+            if (field >= it.laws.fields) {
+                it.bestCost = cost;
+                System.arraycopy(it.chosen, 0, it.best, 0, it.laws.fields);
                 return;
             }
-            int fitting = fittingAt(field);
+            int fitting = it.fittingAt(field);
             for (int number = 0; number < NUMBERS; number++) {
                 if (contains(fitting, number)) {
-                    chosen[field] = number;
-                    chooseFrom(field + 1, cost + laws.weight[field] * number);
+                    it.chosen[field] = number;
+                    chooseFrom(it, field + 1, cost + it.laws.weight[field] * number);
                 }
             }
         }
 
-        private void countFrom(int field) {
-            if (field >= laws.fields) {
-                found++;
+        private static void countFrom(Chooser it, int field) {
+            if (field >= it.laws.fields) {
+                it.found++;
                 return;
             }
-            int fitting = fittingAt(field);
-            for (int number = 0; number < NUMBERS && found < MOST_CHOICES; number++) {
+            int fitting = it.fittingAt(field);
+            for (int number = 0; number < NUMBERS && it.found < MOST_CHOICES; number++) {
                 if (contains(fitting, number)) {
-                    chosen[field] = number;
-                    countFrom(field + 1);
+                    it.chosen[field] = number;
+                    countFrom(it, field + 1);
                 }
             }
         }
 
-        /** The numbers of a field by which all lines hold that bind it to fields ahead of it. */
         private int fittingAt(int field) {
-            // Lines about one field alone need no look: what a field may be holds to them already.
+            // Lines about one field alone need no look, as what a field may be holds to them already,
+            // nor do lines with a field behind it: these are looked at when that one is chosen.
             int fitting = from[field];
             for (int line = 0; line < laws.lines; line++) {
                 if (contains(lines, line) && laws.isOfTwo(line)) {
@@ -792,7 +788,7 @@ public final class Meetjoin {
             Arrays.fill(commitOf, NONE);
         }
 
-        /** Makes a commit; a field that there is not yet is NONE in it. */
+        /** A field that there is not yet has to be NONE in what is kept: it stands in the commit like the others. */
         int keep(int[] is) {
             if (commits >= MAX_COMMITS) {
                 return NONE;
@@ -802,7 +798,7 @@ public final class Meetjoin {
             return commits - 1;
         }
 
-        /** Brings a commit to a machine; whether that had another one, or a field drifted on it. */
+        /** Answers whether the machine had another commit, or a field drifted on it. */
         boolean bring(int machine, int commit) {
             boolean isNews = commitOf[machine] != commit || drifting(machine) != 0;
             commitOf[machine] = commit;
@@ -815,7 +811,6 @@ public final class Meetjoin {
             return commit >= 0 && commit < commits && had[machine][field] != kept[commit][field];
         }
 
-        /** The set of fields that drift on a machine. */
         int drifting(int machine) {
             int set = 0;
             for (int field = 0; field < MAX_FIELDS; field++) {
@@ -836,7 +831,6 @@ public final class Meetjoin {
             return many;
         }
 
-        /** The first commit in which the field is something else than in the one ahead of it. */
         int find(int field) {
             for (int commit = 1; commit < commits; commit++) {
                 if (kept[commit][field] != kept[commit - 1][field]) {

@@ -101,6 +101,16 @@ public final class AskedTest {
         c.due("five that are all unlike", best.toString(), "12340");
         c.due("its cost", y.house(7), 11);
         c.due("without fields", new Meetjoin().house(7), -1);
+        Meetjoin z = withFields(2);
+        z.more(0, 0, 1, 3);
+        z.bound(1, 1, 4, false);
+        c.due("up to 7, the field that is more first", z.house(7) + " " + z.ofField(0, 5) + z.ofField(1, 5), "11 74");
+        z.withdraw(1, true);
+        z.unlike(0, 0, 1);
+        c.due("more and unlike at once", z.house(7) + " " + z.ofField(0, 5) + z.ofField(1, 5), "3 30");
+        z.bound(0, 0, 4, false);
+        z.oneOf(1, 1, 2 + 4);
+        c.due("the other one by the first", z.house(7) + " " + z.ofField(0, 5) + z.ofField(1, 5), "5 41");
     }
 
     private static void ofLine() {

@@ -43,7 +43,7 @@ public final class FaceTest {
     };
     private static final String[] NOT_IN_SOURCE = {
         "catch", "finally", "synchronized", "assert ", "instanceof", "->", "::", "package ", "static {",
-        "Random", "System.n", "System.c", "Thread", "getMessage", "Exact", "while"
+        "Random", "System.n", "System.c", "Thread", "getMessage", "Exact"
     };
 
     public static void main(String[] args) throws IOException {

@@ -36,6 +36,15 @@ public final class MeetTest {
         c.due("unlike takes nothing from more than one", x.value(0) + x.value(2), "5735");
         x.bound(0, 2, 4, true);
         c.due("all the way", x.value(0) + x.value(4), "5=51=1");
+        Meetjoin z = withFields(3);
+        z.more(0, 1, 2, 0);
+        z.more(0, 0, 1, 0);
+        z.oneOf(0, 0, 6);
+        c.due("from the last line on to the first", z.value(0) + z.value(1) + z.value(2), "121212");
+        z.withdraw(2, true);
+        z.bound(0, 2, 6, false);
+        z.more(0, 2, 1, 1);
+        c.due("to the other one alone", z.value(1) + z.house(3), "!1");
         Meetjoin y = withFields(2);
         y.more(0, 0, 1, 1);
         y.more(0, 1, 0, 1);

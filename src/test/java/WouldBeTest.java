@@ -151,6 +151,10 @@ public final class WouldBeTest {
             -1, 0, 0, -1, 0, 1, 1, 6, -1, 0, 0, -1, -1, 0, 0, -1, -1, 0, 0, 2, -1, 0, 0, -1, 3, 1};
         c.due("of a house with all", x.digest(), sum(due));
         c.due("again", x.digest(), sum(due));
+        x.approve(1, true);
+        int[] dueWithContradiction = {1, 2, 2, 1, 0, 1, 1, -1, 1, 2, 0, 0, -1, 4, -1, -1, 3, 3, 1, 1,
+            -1, 0, 0, -1, 0, 1, 1, 6, -1, 0, 0, -1, -1, 0, 0, -1, -1, 0, 0, 2, -1, 0, 0, -1, 3, 1};
+        c.due("with a contradiction", x.digest(), sum(dueWithContradiction));
     }
 
     private static long sum(int[] all) {
