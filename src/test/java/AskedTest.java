@@ -1,7 +1,5 @@
-/** Promises 16 to 23: ofField, ofLine, ofMachine, has, ofCommit, house, value, reason. */
+/** Promises 16 to 23, by ordinary calls. What is refused: AskingBoundsTest; further edges: the EdgesTests. */
 public final class AskedTest {
-    private static final Class<IndexOutOfBoundsException> INDEX = IndexOutOfBoundsException.class;
-    private static final Class<IllegalArgumentException> ARGUMENT = IllegalArgumentException.class;
     private static final Check c = new Check("AskedTest");
 
     public static void main(String[] args) {
@@ -36,12 +34,6 @@ public final class AskedTest {
         }
         c.due("of all 8 numbers", x.ofField(0, 2), 8);
         c.due("is nothing", x.ofField(0, 3), -1);
-        c.refused(x, "field 3, what 7", INDEX, () -> x.ofField(3, 7));
-        c.refused(x, "field -1", INDEX, () -> x.ofField(-1, 0));
-        c.refused(x, "what 7", ARGUMENT, () -> x.ofField(0, 7));
-        c.refused(x, "what -1", ARGUMENT, () -> x.ofField(0, -1));
-        Meetjoin y = new Meetjoin();
-        c.refused(y, "no field yet", INDEX, () -> y.ofField(0, 0));
     }
 
     private static void find() {
@@ -130,10 +122,6 @@ public final class AskedTest {
         }
         x.bound(0, 0, 5, true);
         c.due("in the reason", x.ofLine(1, 6) + "" + x.ofLine(2, 6) + x.ofLine(6, 6), "101");
-        c.refused(x, "line 7, what 7", INDEX, () -> x.ofLine(7, 7));
-        c.refused(x, "line -1", INDEX, () -> x.ofLine(-1, 0));
-        c.refused(x, "what 7", ARGUMENT, () -> x.ofLine(0, 7));
-        c.refused(x, "what -1", ARGUMENT, () -> x.ofLine(0, -1));
     }
 
     private static void ofMachine() {
@@ -149,10 +137,6 @@ public final class AskedTest {
         x.patch(2, 1, 1);
         c.due("how many drift", x.ofMachine(2, 1), 2);
         c.due("which drift", x.ofMachine(2, 2), 5);
-        c.refused(x, "machine 6, what 3", INDEX, () -> x.ofMachine(6, 3));
-        c.refused(x, "machine -1", INDEX, () -> x.ofMachine(-1, 0));
-        c.refused(x, "what 3", ARGUMENT, () -> x.ofMachine(0, 3));
-        c.refused(x, "what -1", ARGUMENT, () -> x.ofMachine(5, -1));
     }
 
     private static void hasAndOfCommit() {
@@ -165,14 +149,6 @@ public final class AskedTest {
         c.due("another machine has none", x.has(4, 1), -1);
         c.due("ofCommit", x.ofCommit(0, 1), 6);
         c.due("ofCommit none", x.ofCommit(0, 0), -1);
-        c.refused(x, "has, machine 6", INDEX, () -> x.has(6, 0));
-        c.refused(x, "has, machine -1", INDEX, () -> x.has(-1, 0));
-        c.refused(x, "has, field 2", INDEX, () -> x.has(0, 2));
-        c.refused(x, "has, field -1", INDEX, () -> x.has(0, -1));
-        c.refused(x, "ofCommit, commit 1", INDEX, () -> x.ofCommit(1, 0));
-        c.refused(x, "ofCommit, commit -1", INDEX, () -> x.ofCommit(-1, 0));
-        c.refused(x, "ofCommit, field 2", INDEX, () -> x.ofCommit(0, 2));
-        c.refused(x, "ofCommit, field -1", INDEX, () -> x.ofCommit(0, -1));
     }
 
     private static void house() {
@@ -198,8 +174,6 @@ public final class AskedTest {
         for (int what = 0; what <= 8; what++) {
             c.due("house(" + what + ") with a contradiction", x.house(what), dueWithContradiction[what]);
         }
-        c.refused(x, "what 9", ARGUMENT, () -> x.house(9));
-        c.refused(x, "what -1", ARGUMENT, () -> x.house(-1));
     }
 
     private static void value() {
@@ -213,8 +187,6 @@ public final class AskedTest {
         c.due("one", x.value(0), "0=0");
         x.bound(0, 0, 1, false);
         c.due("none", x.value(0), "!");
-        c.refused(x, "field 1", INDEX, () -> x.value(1));
-        c.refused(x, "field -1", INDEX, () -> x.value(-1));
     }
 
     private static void reason() {
@@ -226,10 +198,7 @@ public final class AskedTest {
         x.oneOf(0, 0, 1);
         c.due("of the last line", x.reason(0), 1 << 29);
         c.due("of the other field", x.reason(1), 0);
-        c.refused(x, "field 2", INDEX, () -> x.reason(2));
-        c.refused(x, "field -2", INDEX, () -> x.reason(-2));
         Meetjoin y = new Meetjoin();
         c.due("none is let without fields, too", y.reason(-1), 0);
-        c.refused(y, "field 0", INDEX, () -> y.reason(0));
     }
 }

@@ -3,6 +3,7 @@ import java.util.Objects;
 /** Counts answers that are not due. Each test class makes one and ends with its exit code. */
 final class Check {
     private final String test;
+    private String place = "";
     private int right = 0;
     private int wrong = 0;
 
@@ -10,9 +11,9 @@ final class Check {
         this.test = test;
     }
 
-    /** A call whose exception is asked for; any answer of it is dropped. */
-    interface Call {
-        void make();
+    /** The sentence of the document, or the promise, that the answers behind this are due by. */
+    void at(String sentence) {
+        place = " [" + sentence + "]";
     }
 
     void due(String what, Object got, Object want) {
@@ -20,21 +21,8 @@ final class Check {
             right++;
         } else {
             wrong++;
-            System.out.println(test + ": " + what + " answered " + got + ", due is " + want);
+            System.out.println(test + place + ": " + what + " answered " + got + ", due is " + want);
         }
-    }
-
-    /** The call has to throw just this, and has to leave all that can be asked as it was. */
-    void refused(Meetjoin house, String what, Class<? extends RuntimeException> want, Call call) {
-        String before = Snapshot.of(house);
-        Object got = "nothing thrown";
-        try {
-            call.make();
-        } catch (RuntimeException e) {
-            got = e.getClass();
-        }
-        due(what, got, want);
-        due(what + ", what is left by it", Snapshot.of(house), before);
     }
 
     void end() {

@@ -1,8 +1,5 @@
-/** Promises 2 to 10: field, oneOf, bound, more, unlike, preset, approve, withdraw, weight. */
+/** Promises 2 to 10, by ordinary calls. What is refused: TellingBoundsTest; further edges: LineEdgesTest. */
 public final class FieldsAndLinesTest {
-    private static final Class<IndexOutOfBoundsException> INDEX = IndexOutOfBoundsException.class;
-    private static final Class<IllegalArgumentException> ARGUMENT = IllegalArgumentException.class;
-    private static final Class<IllegalStateException> STATE = IllegalStateException.class;
     private static final Check c = new Check("FieldsAndLinesTest");
 
     public static void main(String[] args) {
@@ -35,9 +32,6 @@ public final class FieldsAndLinesTest {
 
     private static void fields() {
         Meetjoin x = new Meetjoin();
-        for (int wrong : new int[] {-1, 4, Integer.MIN_VALUE, Integer.MAX_VALUE}) {
-            c.refused(x, "field(" + wrong + ")", ARGUMENT, () -> x.field(wrong));
-        }
         int[] teams = {3, 0, 1, 2, 3};
         for (int field = 0; field < 5; field++) {
             c.due("field", x.field(teams[field]), field);
@@ -46,8 +40,6 @@ public final class FieldsAndLinesTest {
             c.due("its weight", x.ofField(field, 4), 1);
             c.due("fields", x.house(0), field + 1);
         }
-        c.refused(x, "a sixth field", STATE, () -> x.field(0));
-        c.refused(x, "a sixth field of no team", ARGUMENT, () -> x.field(4));
     }
 
     private static void oneOf() {
@@ -60,13 +52,6 @@ public final class FieldsAndLinesTest {
         c.due("value", x.value(0), "0=0");
         dueLine(x, 0, 0, 0, 1, 160, 0, 1, 0);
         dueLine(x, 1, 0, 2, 0, 255, 0, 0, 0);
-        c.refused(x, "field -1", INDEX, () -> x.oneOf(0, -1, 1));
-        c.refused(x, "field 2, team 4 and set 0", INDEX, () -> x.oneOf(4, 2, 0));
-        c.refused(x, "team 4", ARGUMENT, () -> x.oneOf(4, 0, 1));
-        c.refused(x, "team -1", ARGUMENT, () -> x.oneOf(-1, 0, 1));
-        c.refused(x, "set 0", ARGUMENT, () -> x.oneOf(0, 0, 0));
-        c.refused(x, "set 256", ARGUMENT, () -> x.oneOf(0, 0, 256));
-        c.refused(x, "set -1", ARGUMENT, () -> x.oneOf(0, 0, -1));
     }
 
     private static void bounds() {
@@ -85,12 +70,6 @@ public final class FieldsAndLinesTest {
         dueLine(x, 0, 1, 0, 0, 3, 0, 1, 0);
         dueLine(x, 1, 2, 0, 0, 5, 0, 1, 0);
         dueLine(x, 5, 2, 0, 1, 0, 0, 1, 1);
-        c.refused(x, "field 2, team 4", INDEX, () -> x.bound(4, 2, 8, true));
-        c.refused(x, "field -1", INDEX, () -> x.bound(0, -1, 1, true));
-        c.refused(x, "team 4", ARGUMENT, () -> x.bound(4, 0, 1, true));
-        c.refused(x, "team -1", ARGUMENT, () -> x.bound(-1, 0, 1, false));
-        c.refused(x, "number 8", ARGUMENT, () -> x.bound(0, 0, 8, true));
-        c.refused(x, "number -1", ARGUMENT, () -> x.bound(0, 0, -1, false));
     }
 
     private static void more() {
@@ -108,16 +87,6 @@ public final class FieldsAndLinesTest {
         dueLine(x, 2, 3, 3, 2, 1, 7, 0, 0);
         x.more(1, 0, 1, 0);
         dueLine(x, 3, 3, 1, 0, 1, 0, 0, 0);
-        c.refused(x, "field 3", INDEX, () -> x.more(0, 3, 0, 1));
-        c.refused(x, "other 3", INDEX, () -> x.more(0, 0, 3, 1));
-        c.refused(x, "other -1", INDEX, () -> x.more(0, 0, -1, 1));
-        c.refused(x, "both 3, team 4, by 8", INDEX, () -> x.more(4, 3, 3, 8));
-        c.refused(x, "team 4", ARGUMENT, () -> x.more(4, 0, 1, 1));
-        c.refused(x, "team -1", ARGUMENT, () -> x.more(-1, 0, 1, 1));
-        c.refused(x, "both the same", ARGUMENT, () -> x.more(0, 1, 1, 0));
-        c.refused(x, "by 8", ARGUMENT, () -> x.more(0, 0, 1, 8));
-        c.refused(x, "by -8", ARGUMENT, () -> x.more(0, 0, 1, -8));
-        c.refused(x, "by the least int", ARGUMENT, () -> x.more(0, 0, 1, Integer.MIN_VALUE));
     }
 
     private static void unlike() {
@@ -131,12 +100,6 @@ public final class FieldsAndLinesTest {
         x.oneOf(0, 2, 16 + 8);
         c.due("one is left", x.value(2), "3=3");
         dueLine(x, 2, 4, 0, 1, 2, 0, 1, 0);
-        c.refused(x, "field 3", INDEX, () -> x.unlike(0, 3, 0));
-        c.refused(x, "other 3", INDEX, () -> x.unlike(0, 0, 3));
-        c.refused(x, "both -1, team 4", INDEX, () -> x.unlike(4, -1, -1));
-        c.refused(x, "team 4", ARGUMENT, () -> x.unlike(4, 0, 1));
-        c.refused(x, "team -1", ARGUMENT, () -> x.unlike(-1, 0, 1));
-        c.refused(x, "both the same", ARGUMENT, () -> x.unlike(0, 2, 2));
     }
 
     private static void presets() {
@@ -147,14 +110,6 @@ public final class FieldsAndLinesTest {
         c.due("it does not count", x.value(1), "01234567");
         dueLine(x, 0, 5, 0, 0, 4, 9, 1, 0);
         dueLine(x, 1, 5, 1, 1, 7, 0, 0, 0);
-        c.refused(x, "field 2, team 4", INDEX, () -> x.preset(4, 2, 8, 10));
-        c.refused(x, "field -1", INDEX, () -> x.preset(0, -1, 0, 0));
-        c.refused(x, "team 4", ARGUMENT, () -> x.preset(4, 0, 0, 0));
-        c.refused(x, "team -1", ARGUMENT, () -> x.preset(-1, 0, 0, 0));
-        c.refused(x, "number 8", ARGUMENT, () -> x.preset(0, 0, 8, 0));
-        c.refused(x, "number -1", ARGUMENT, () -> x.preset(0, 0, -1, 0));
-        c.refused(x, "rank 10", ARGUMENT, () -> x.preset(0, 0, 0, 10));
-        c.refused(x, "rank -1", ARGUMENT, () -> x.preset(0, 0, 0, -1));
     }
 
     private static void fullOfLines() {
@@ -163,23 +118,6 @@ public final class FieldsAndLinesTest {
             c.due("line", x.oneOf(line % 4, line % 2, 255), line);
         }
         c.due("lines", x.house(1), 30);
-        c.refused(x, "oneOf, full", STATE, () -> x.oneOf(0, 0, 255));
-        c.refused(x, "bound, full", STATE, () -> x.bound(0, 0, 7, true));
-        c.refused(x, "more, full", STATE, () -> x.more(0, 0, 1, 0));
-        c.refused(x, "unlike, full", STATE, () -> x.unlike(0, 0, 1));
-        c.refused(x, "preset, full", STATE, () -> x.preset(0, 0, 0, 0));
-        c.refused(x, "oneOf, full, set 0", ARGUMENT, () -> x.oneOf(0, 0, 0));
-        c.refused(x, "bound, full, number 8", ARGUMENT, () -> x.bound(0, 0, 8, true));
-        c.refused(x, "more, full, by 8", ARGUMENT, () -> x.more(0, 0, 1, 8));
-        c.refused(x, "unlike, full, the same", ARGUMENT, () -> x.unlike(0, 0, 0));
-        c.refused(x, "preset, full, rank 10", ARGUMENT, () -> x.preset(0, 0, 0, 10));
-        c.refused(x, "oneOf, full, field 2", INDEX, () -> x.oneOf(0, 2, 255));
-        c.refused(x, "bound, full, field 2", INDEX, () -> x.bound(0, 2, 7, true));
-        c.refused(x, "more, full, field 2", INDEX, () -> x.more(0, 0, 2, 0));
-        c.refused(x, "unlike, full, field 2", INDEX, () -> x.unlike(0, 2, 1));
-        c.refused(x, "preset, full, field 2", INDEX, () -> x.preset(0, 2, 0, 0));
-        x.withdraw(0, true);
-        c.refused(x, "a line that is withdrawn stays one of the 30", STATE, () -> x.oneOf(0, 0, 255));
         c.due("met by all 30 lines", x.met((1 << 30) - 1, 0), 255);
     }
 
@@ -200,9 +138,6 @@ public final class FieldsAndLinesTest {
         c.due("take the withdrawal back", x.withdraw(0, false), true);
         x.more(1, 1, 0, 0);
         c.due("the other field's team is not asked for", x.ofLine(2, 5), 0);
-        c.refused(x, "line -1", INDEX, () -> x.approve(-1, true));
-        c.refused(x, "line 3", INDEX, () -> x.approve(3, false));
-        c.refused(x, "line 30", INDEX, () -> x.approve(30, true));
     }
 
     private static void withdraw() {
@@ -221,8 +156,6 @@ public final class FieldsAndLinesTest {
         x.oneOf(1, 0, 1);
         c.due("another team's line does not count by that", x.withdraw(2, false), false);
         c.due("lines", x.house(1), 3);
-        c.refused(x, "line -1", INDEX, () -> x.withdraw(-1, true));
-        c.refused(x, "line 3", INDEX, () -> x.withdraw(3, false));
     }
 
     private static void weights() {
@@ -236,9 +169,5 @@ public final class FieldsAndLinesTest {
         c.due("cost", x.house(7), 15);
         x.weight(1, 2);
         c.due("cost by the new weight", x.house(7), 6);
-        c.refused(x, "field 2, weight 10", INDEX, () -> x.weight(2, 10));
-        c.refused(x, "field -1", INDEX, () -> x.weight(-1, 1));
-        c.refused(x, "weight 10", ARGUMENT, () -> x.weight(0, 10));
-        c.refused(x, "weight -1", ARGUMENT, () -> x.weight(0, -1));
     }
 }

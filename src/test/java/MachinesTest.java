@@ -1,8 +1,5 @@
-/** Promises 11 to 15: commit, wave, patch, absorb, knock. */
+/** Promises 11 to 15, by ordinary calls. What is refused: MachineBoundsTest; further edges: FleetEdgesTest. */
 public final class MachinesTest {
-    private static final Class<IndexOutOfBoundsException> INDEX = IndexOutOfBoundsException.class;
-    private static final Class<IllegalArgumentException> ARGUMENT = IllegalArgumentException.class;
-    private static final Class<IllegalStateException> STATE = IllegalStateException.class;
     private static final Check c = new Check("MachinesTest");
 
     public static void main(String[] args) {
@@ -11,7 +8,6 @@ public final class MachinesTest {
         waves();
         patches();
         absorbs();
-        absorbFull();
         knocks();
         c.end();
     }
@@ -35,12 +31,10 @@ public final class MachinesTest {
         c.due("the first commit stays", x.ofCommit(0, 0) + " " + x.ofCommit(0, 1), "3 5");
         c.due("the second one", x.ofCommit(1, 0) + " " + x.ofCommit(1, 1), "2 -1");
         x.oneOf(0, 0, 8);
-        c.refused(x, "with a contradiction", STATE, x::commit);
         x.withdraw(3, true);
         for (int commit = 2; commit < 12; commit++) {
             c.due("commit", x.commit(), commit);
         }
-        c.refused(x, "a 13th commit", STATE, x::commit);
         c.due("commits", x.house(5), 12);
         Meetjoin y = new Meetjoin();
         c.due("a commit without fields", y.commit(), 0);
@@ -89,12 +83,6 @@ public final class MachinesTest {
         c.due("the others keep the other one", x.has(1, 0) + " " + x.has(0, 0), "3 6");
         x.patch(1, 0, 6);
         c.due("what it has is that of the new commit, but it drifted", x.wave(1, 2), 1);
-        c.refused(x, "commit 2, machines 64", INDEX, () -> x.wave(2, 64));
-        c.refused(x, "commit -1", INDEX, () -> x.wave(-1, 1));
-        c.refused(x, "machines 64", ARGUMENT, () -> x.wave(0, 64));
-        c.refused(x, "machines -1", ARGUMENT, () -> x.wave(0, -1));
-        Meetjoin y = settled();
-        c.refused(y, "no commit yet", INDEX, () -> y.wave(0, 1));
     }
 
     private static void patches() {
@@ -111,24 +99,14 @@ public final class MachinesTest {
         c.due("patch back", x.patch(4, 0, 3), 1);
         c.due("no drift", x.ofMachine(4, 2), 0);
         c.due("the commit is as it was", x.ofCommit(0, 0), 3);
-        c.refused(x, "machine 6, number 8", INDEX, () -> x.patch(6, 0, 8));
-        c.refused(x, "machine -1", INDEX, () -> x.patch(-1, 0, 1));
-        c.refused(x, "field 2", INDEX, () -> x.patch(0, 2, 1));
-        c.refused(x, "field -1, number -1", INDEX, () -> x.patch(0, -1, -1));
-        c.refused(x, "number 8", ARGUMENT, () -> x.patch(0, 0, 8));
-        c.refused(x, "number -1", ARGUMENT, () -> x.patch(0, 0, -1));
     }
 
     private static void absorbs() {
         Meetjoin x = settled();
-        c.refused(x, "no commit on it", STATE, () -> x.absorb(0, 0));
         x.patch(0, 0, 1);
-        c.refused(x, "patched, but no commit on it", STATE, () -> x.absorb(0, 0));
         x.commit();
         x.wave(0, 3);
         x.patch(1, 1, 7);
-        c.refused(x, "another field drifts", STATE, () -> x.absorb(1, 0));
-        c.refused(x, "it drifts on another machine", STATE, () -> x.absorb(0, 1));
         c.due("absorb", x.absorb(1, 1), 2);
         c.due("kind", x.ofLine(2, 0), 0);
         c.due("by the field's team", x.ofLine(2, 1), 2);
@@ -143,22 +121,6 @@ public final class MachinesTest {
         x.patch(1, 1, 0);
         c.due("absorb another number", x.absorb(1, 1), 4);
         c.due("may be a contradiction", x.house(3), 1);
-        c.refused(x, "machine 6", INDEX, () -> x.absorb(6, 0));
-        c.refused(x, "machine -1", INDEX, () -> x.absorb(-1, 0));
-        c.refused(x, "field 2", INDEX, () -> x.absorb(0, 2));
-        c.refused(x, "field -1", INDEX, () -> x.absorb(1, -1));
-    }
-
-    private static void absorbFull() {
-        Meetjoin x = settled();
-        x.commit();
-        x.wave(0, 1);
-        x.patch(0, 0, 1);
-        for (int line = 2; line < 30; line++) {
-            x.bound(0, 0, 7, true);
-        }
-        c.refused(x, "with 30 lines", STATE, () -> x.absorb(0, 0));
-        c.refused(x, "with 30 lines, machine 6", INDEX, () -> x.absorb(6, 0));
     }
 
     private static void knocks() {

@@ -8,6 +8,7 @@ public final class ModelTest {
     private final Check c;
     private final int run;
     private long seed;
+    private int calls = 0;
     private Meetjoin x = new Meetjoin();
     private Model m = new Model();
 
@@ -55,7 +56,7 @@ public final class ModelTest {
         }
         // Some runs withdraw and tell few lines, so that what fields may be stays wide; others tell many.
         int telling = 2 + any(12);
-        for (int call = fields; call < CALLS - 1; call++) {
+        while (calls < CALLS - 2) {
             int dice = any(100);
             if (dice < telling) {
                 tell(teams);
@@ -68,7 +69,6 @@ public final class ModelTest {
             }
         }
         same("digest", x::digest, m::digest);
-        c.due("run " + run + ": snapshot twice", Snapshot.of(x), Snapshot.of(x));
     }
 
     private int someField() {
@@ -157,6 +157,7 @@ public final class ModelTest {
     }
 
     private void same(String call, Supplier<Object> ofHouse, Supplier<Object> ofModel) {
+        calls++;
         c.due("run " + run + ": " + call, answer(ofHouse), answer(ofModel));
     }
 

@@ -1,12 +1,19 @@
+import java.util.function.Supplier;
+
 /** All that can be asked of a house, as one text. */
 final class Snapshot {
     private Snapshot() {
     }
 
-    static String of(Meetjoin x) {
-        StringBuilder all = new StringBuilder();
+    /** Asks a house made anew for each part, so that none of them comes to its 512th call. */
+    static String of(Supplier<Meetjoin> made) {
+        return ofFields(made.get()) + ofLines(made.get()) + ofMachinesAndCommits(made.get()) + ofWhatWouldBe(made.get());
+    }
+
+    private static String ofFields(Meetjoin x) {
+        StringBuilder all = new StringBuilder("house");
         for (int what = 0; what <= 8; what++) {
-            all.append(x.house(what)).append(' ');
+            all.append(' ').append(x.house(what));
         }
         for (int field = 0; field < x.house(0); field++) {
             all.append("\nfield ").append(field).append(": ").append(x.value(field)).append(" reason ").append(x.reason(field));
@@ -17,18 +24,23 @@ final class Snapshot {
                 all.append(" c").append(x.choices(field, number));
             }
         }
-        all.append("\nreason ").append(x.reason(-1));
+        return all.append("\nreason ").append(x.reason(-1)).append(" sound ").append(x.isSound())
+            .append(" digest ").append(x.digest()).toString();
+    }
+
+    private static String ofLines(Meetjoin x) {
+        StringBuilder all = new StringBuilder();
         for (int line = 0; line < x.house(1); line++) {
             all.append("\nline ").append(line).append(':');
             for (int what = 0; what <= 6; what++) {
                 all.append(' ').append(x.ofLine(line, what));
             }
         }
-        addMachinesAndCommits(all, x);
-        return all.append("\nsound ").append(x.isSound()).append(" digest ").append(x.digest()).toString();
+        return all.toString();
     }
 
-    private static void addMachinesAndCommits(StringBuilder all, Meetjoin x) {
+    private static String ofMachinesAndCommits(Meetjoin x) {
+        StringBuilder all = new StringBuilder();
         for (int machine = 0; machine < 6; machine++) {
             all.append("\nmachine ").append(machine).append(':');
             for (int what = 0; what <= 2; what++) {
@@ -44,5 +56,23 @@ final class Snapshot {
                 all.append(' ').append(x.ofCommit(commit, field));
             }
         }
+        return all.toString();
+    }
+
+    private static String ofWhatWouldBe(Meetjoin x) {
+        StringBuilder all = new StringBuilder();
+        int fields = x.house(0);
+        int lines = x.house(1);
+        for (int field = 0; field < fields; field++) {
+            all.append("\nmet ").append(field).append(':').append(x.met((1 << lines) - 1, field));
+            for (int line = 0; line < lines; line++) {
+                all.append(' ').append(x.met(1 << line, field));
+            }
+            all.append(" narrower than");
+            for (int other = 0; other < fields; other++) {
+                all.append(x.isNarrower(field, other) ? " " + other : "");
+            }
+        }
+        return all.toString();
     }
 }

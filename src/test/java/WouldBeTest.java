@@ -1,7 +1,5 @@
-/** Promises 24 to 28: met, choices, isNarrower, isSound, digest. */
+/** Promises 24 to 28, by ordinary calls. What is refused: AskingBoundsTest; further edges: AnswerEdgesTest, ChoiceEdgesTest. */
 public final class WouldBeTest {
-    private static final Class<IndexOutOfBoundsException> INDEX = IndexOutOfBoundsException.class;
-    private static final Class<IllegalArgumentException> ARGUMENT = IllegalArgumentException.class;
     private static final Check c = new Check("WouldBeTest");
 
     public static void main(String[] args) {
@@ -39,21 +37,12 @@ public final class WouldBeTest {
         c.due("just these, though a contradiction counts", x.met(1, 1), 255);
         c.due("a contradiction empties the other field, too", x.met(2 + 16, 1), 0);
         c.due("all", x.met(31, 0), 0);
-        c.refused(x, "field 2, lines -1", INDEX, () -> x.met(-1, 2));
-        c.refused(x, "field -1", INDEX, () -> x.met(0, -1));
-        c.refused(x, "lines 32", ARGUMENT, () -> x.met(32, 0));
-        c.refused(x, "lines 33", ARGUMENT, () -> x.met(33, 0));
-        c.refused(x, "lines -1", ARGUMENT, () -> x.met(-1, 0));
-        c.refused(x, "the least int", ARGUMENT, () -> x.met(Integer.MIN_VALUE, 0));
         Meetjoin y = withFields(1);
-        c.refused(y, "no lines yet", ARGUMENT, () -> y.met(1, 0));
         for (int line = 0; line < 30; line++) {
             y.oneOf(0, 0, line == 29 ? 1 : 255);
         }
         c.due("the 30th line", y.met(1 << 29, 0), 1);
         c.due("the first 29 lines", y.met((1 << 29) - 1, 0), 255);
-        c.refused(y, "a 31st line", ARGUMENT, () -> y.met(1 << 30, 0));
-        c.refused(y, "all bits", ARGUMENT, () -> y.met(Integer.MAX_VALUE, 0));
     }
 
     private static void choices() {
@@ -76,10 +65,6 @@ public final class WouldBeTest {
         c.due("those that count do", x.choices(3, 4), 56);
         x.oneOf(0, 0, 128);
         c.due("none with a contradiction", x.choices(1, 1), 0);
-        c.refused(x, "field 4, number 8", INDEX, () -> x.choices(4, 8));
-        c.refused(x, "field -1", INDEX, () -> x.choices(-1, 0));
-        c.refused(x, "number 8", ARGUMENT, () -> x.choices(0, 8));
-        c.refused(x, "number -1", ARGUMENT, () -> x.choices(0, -1));
         around500();
     }
 
@@ -111,10 +96,6 @@ public final class WouldBeTest {
         c.due("what it may be, not what it is", x.isNarrower(0, 1), false);
         x.oneOf(0, 2, 1);
         c.due("nothing with a contradiction", x.isNarrower(0, 1), true);
-        c.refused(x, "field 3", INDEX, () -> x.isNarrower(3, 0));
-        c.refused(x, "other 3", INDEX, () -> x.isNarrower(0, 3));
-        c.refused(x, "field -1", INDEX, () -> x.isNarrower(-1, 0));
-        c.refused(x, "other -1", INDEX, () -> x.isNarrower(0, -1));
     }
 
     private static void isSound() {
@@ -172,7 +153,6 @@ public final class WouldBeTest {
         x.more(0, 2, 0, 1);
         x.preset(0, 0, 4, 1);
         x.preset(0, 1, 4, 1);
-        String before = Snapshot.of(x);
         for (int set = 0; set < 32; set++) {
             x.met(set, set % 3);
             x.choices(set % 3, set % 8);
@@ -183,6 +163,5 @@ public final class WouldBeTest {
         }
         x.isSound();
         x.digest();
-        c.due("all is as it was", Snapshot.of(x), before);
     }
 }
