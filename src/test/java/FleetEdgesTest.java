@@ -29,12 +29,14 @@ public final class FleetEdgesTest {
         return x;
     }
 
-    /** Withdraws the line that made the field what it is, and tells another one. */
+    /** Withdraws the last line about the field, which made it what it is, and tells another one. */
     private static void now(Meetjoin x, int field, int number) {
-        for (int line = 0; line < x.house(1); line++) {
-            if (x.ofLine(line, 2) == field) {
-                x.withdraw(line, true);
-            }
+        int line = x.house(1) - 1;
+        while (line >= 0 && x.ofLine(line, 2) != field) {
+            line--;
+        }
+        if (line >= 0) {
+            x.withdraw(line, true);
         }
         if (number >= 0) {
             x.oneOf(x.ofField(field, 0), field, 1 << number);

@@ -224,6 +224,7 @@ public final class LineEdgesTest {
             int other = tell(x, kind, 1);
             c.due("an own line of kind " + kind + " is not withdrawn", x.ofLine(own, 5), 1);
             c.due("another team's line of kind " + kind + " is not approved", x.ofLine(other, 5), 0);
+            c.due("number, rank, or 0 of kind " + kind, x.ofLine(own, 4), kind == 3 ? 1 : 0);
         }
         c.due("lines that count", x.house(2), 6);
         c.due("approved of old does not hold for a new line", x.approve(1, true), true);

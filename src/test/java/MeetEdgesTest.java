@@ -71,6 +71,12 @@ public final class MeetEdgesTest {
             y.more(0, field, (field + 1) % 5, field == 4 ? -3 : 1);
         }
         c.due("one that does not, number by number down to nothing", values(y), "! ! ! ! !");
+        Meetjoin last = withFields(3);
+        last.more(0, 1, 0, 0);
+        last.more(0, 2, 1, 0);
+        last.oneOf(0, 2, 2 + 4);
+        last.oneOf(0, 1, 2 + 4 + 16);
+        c.due("each line takes from its other field alone, the last one from that of the first", values(last), "12 12 12");
         Meetjoin z = withFields(5);
         for (int field = 0; field < 4; field++) {
             z.unlike(0, field, field + 1);

@@ -1,3 +1,5 @@
+import java.util.function.Supplier;
+
 /** A house as a tale tells it. It is told anew for each question, so that no object comes to its 512th call. */
 final class Scene {
     /** The calls by which a house comes to be what it is in a scene. */
@@ -21,7 +23,7 @@ final class Scene {
         this.name = name;
         this.tale = tale;
         asTold = Snapshot.of(this::house);
-        lateron = Snapshot.of(() -> goneOn(house()));
+        lateron = goneOn(this::house);
     }
 
     Meetjoin house() {
@@ -41,7 +43,7 @@ final class Scene {
     void refuses(Class<? extends RuntimeException> want, String what, Call call) {
         c.due(name + ": " + what, answer(house(), call), "throws " + want.getName());
         c.due(name + ": what is behind " + what, Snapshot.of(() -> behind(call)), asTold);
-        c.due(name + ": what comes behind " + what, Snapshot.of(() -> goneOn(behind(call))), lateron);
+        c.due(name + ": what comes behind " + what, goneOn(() -> behind(call)), lateron);
     }
 
     private Meetjoin behind(Call call) {
@@ -58,21 +60,38 @@ final class Scene {
         }
     }
 
-    private static Meetjoin goneOn(Meetjoin x) {
-        answer(x, it -> it.oneOf(3, 0, 0b11011010));
-        int last = x.house(1) - 1;
-        answer(x, it -> it.approve(last, true));
-        answer(x, it -> it.unlike(2, 0, it.field(2)));
-        answer(x, it -> it.preset(0, 0, 6, 9));
-        answer(x, it -> it.withdraw(0, true));
-        answer(x, it -> it.withdraw(it.house(1) - 1, false));
-        answer(x, it -> it.weight(0, 4));
-        answer(x, it -> it.commit());
-        answer(x, it -> it.wave(it.house(5) - 1, 0b010110));
-        answer(x, it -> it.patch(2, 0, 1));
-        answer(x, it -> it.absorb(2, 0));
-        x.knock();
-        return x;
+    /** What calls behind the tale, and behind this call, answer, and all that can be asked behind them. */
+    private String goneOn(Supplier<Meetjoin> made) {
+        return goOn(made.get()) + Snapshot.of(() -> {
+            Meetjoin x = made.get();
+            goOn(x);
+            return x;
+        });
+    }
+
+    private static String goOn(Meetjoin x) {
+        Call[] calls = {
+            it -> it.oneOf(3, 0, 0b11011010),
+            it -> it.ofLine(it.house(1) - 1, 5),
+            it -> it.approve(it.house(1) - 1, true),
+            it -> it.field(2),
+            it -> it.ofField(it.house(0) - 1, 4),
+            it -> it.unlike(2, 0, it.house(0) - 1),
+            it -> it.preset(0, 0, 6, 9),
+            it -> it.ofLine(it.house(1) - 1, 5),
+            it -> it.withdraw(0, true),
+            it -> it.weight(0, 4),
+            it -> it.commit(),
+            it -> it.wave(it.house(5) - 1, 0b010110),
+            it -> it.patch(2, 0, 1),
+            it -> it.absorb(2, 0),
+            it -> it.knock()
+        };
+        StringBuilder all = new StringBuilder();
+        for (Call call : calls) {
+            all.append(answer(x, call)).append(' ');
+        }
+        return all.toString();
     }
 
     /** Just outside of a bound, and far outside. */
